@@ -1,0 +1,254 @@
+import java.util.ArrayList;
+import java.util.Arrays;
+import java.util.Comparator;
+import java.util.List;
+import java.util.Random;
+
+/**
+ * Long runs of calls, the same ones each time, compared with a model that is
+ * written straight from the document's terms: it tries the edits one by one
+ * and sorts the found words, where the class counts with costs and places.
+ */
+public final class TypoSearchModel {
+    private static final int RUNS = 600;
+    private static final int CALLS = 512;
+    private static final int[] ODD_NUMBERS = {
+        -1, -2, 4, 6, 10, 11, 31, 32, 60, Integer.MAX_VALUE, Integer.MIN_VALUE};
+
+    private static int wrong = 0;
+
+    private static final class Word {
+        final int number;
+        final List<Integer> symbols = new ArrayList<>();
+        int weight;
+
+        Word(int number) {
+            this.number = number;
+        }
+    }
+
+    private static final class Model {
+        final Word[] words = new Word[10];
+        final List<Integer> query = new ArrayList<>();
+
+        boolean has(int w) {
+            return w >= 0 && w <= 9 && words[w] != null;
+        }
+
+        static boolean in(int n, int least, int most) {
+            return n >= least && n <= most;
+        }
+
+        int begin(int s, int weight) {
+            if (!in(s, 0, 3) || !in(weight, 0, 9)) {
+                return -1;
+            }
+            int w = Arrays.asList(words).indexOf(null);
+            if (w < 0) {
+                return -2;
+            }
+            words[w] = new Word(w);
+            words[w].symbols.add(s);
+            words[w].weight = weight;
+            return w;
+        }
+
+        int extend(int w, int s) {
+            if (!has(w) || !in(s, 0, 3) || words[w].symbols.size() == 6) {
+                return 0;
+            }
+            words[w].symbols.add(s);
+            return 1;
+        }
+
+        int remove(int w) {
+            if (!has(w)) {
+                return 0;
+            }
+            words[w] = null;
+            return 1;
+        }
+
+        int weigh(int w, int weight) {
+            if (!has(w) || !in(weight, 0, 9)) {
+                return 0;
+            }
+            words[w].weight = weight;
+            return 1;
+        }
+
+        int words() {
+            int bits = 0;
+            for (int w = 0; w < 10; w++) {
+                bits += words[w] == null ? 0 : 1 << w;
+            }
+            return bits;
+        }
+
+        int type(int s) {
+            if (!in(s, 0, 3)) {
+                return -1;
+            }
+            if (query.size() == 6) {
+                return -2;
+            }
+            query.add(s);
+            return ranked(query).size();
+        }
+
+        int rub() {
+            return query.isEmpty() ? -1 : query.remove(query.size() - 1);
+        }
+
+        int typos(int w) {
+            return has(w) ? tryEdits(query, 0, words[w].symbols, 0, 0) : -1;
+        }
+
+        /** Answers 3 for anything above 2, which the document never tells apart. */
+        static int tryEdits(List<Integer> query, int i, List<Integer> word, int j, int spent) {
+            if (spent > 2) {
+                return 3;
+            }
+            if (i == query.size()) {
+                return spent;
+            }
+            int price = i == 0 ? 2 : 1;
+            int least = tryEdits(query, i + 1, word, j, spent + price);
+            if (j < word.size()) {
+                int step = query.get(i).equals(word.get(j)) ? 0 : price;
+                least = Math.min(least, tryEdits(query, i + 1, word, j + 1, spent + step));
+                least = Math.min(least, tryEdits(query, i, word, j + 1, spent + price));
+            }
+            return least;
+        }
+
+        List<Word> ranked(List<Integer> typed) {
+            int forgiven = new int[] {0, 0, 0, 1, 1, 2, 2}[typed.size()];
+            List<Word> found = new ArrayList<>();
+            for (Word word : words) {
+                if (word != null && tryEdits(typed, 0, word.symbols, 0, 0) <= forgiven) {
+                    found.add(word);
+                }
+            }
+            found.sort(Comparator
+                .comparingInt((Word word) -> tryEdits(typed, 0, word.symbols, 0, 0))
+                .thenComparing(word -> !word.symbols.equals(typed))
+                .thenComparing(word -> word.symbols.size())
+                .thenComparing(word -> -word.weight)
+                .thenComparing(word -> word.number));
+            return found;
+        }
+
+        int found() {
+            return ranked(query).stream().mapToInt(word -> 1 << word.number).sum();
+        }
+
+        int at(int k) {
+            List<Word> found = ranked(query);
+            return in(k, 0, found.size() - 1) ? found.get(k).number : -1;
+        }
+
+        int place(int w) {
+            return has(w) ? ranked(query).indexOf(words[w]) : -1;
+        }
+
+        int hints() {
+            int bits = 0;
+            for (int s = 0; s < 4 && query.size() < 6; s++) {
+                List<Integer> longer = new ArrayList<>(query);
+                longer.add(s);
+                bits += ranked(longer).isEmpty() ? 0 : 1 << s;
+            }
+            return bits;
+        }
+
+        int common() {
+            List<Word> found = ranked(query);
+            for (int length = 6; length > 0 && !found.isEmpty(); length--) {
+                int most = length;
+                List<Integer> first = found.get(0).symbols;
+                if (found.stream().allMatch(word -> word.symbols.size() >= most && first.size() >= most
+                        && word.symbols.subList(0, most).equals(first.subList(0, most)))) {
+                    return length;
+                }
+            }
+            return 0;
+        }
+    }
+
+    private static void due(int run, String call, int got, int want) {
+        if (got != want) {
+            wrong++;
+            System.out.println("run " + run + ": " + call + " answered " + got + ", due is " + want);
+        }
+    }
+
+    private static int bit(boolean answer) {
+        return answer ? 1 : 0;
+    }
+
+    /** Mostly 0 .. most, now and then a number that is out of reach. */
+    private static int pick(Random random, int most) {
+        return random.nextInt(16) == 0
+            ? ODD_NUMBERS[random.nextInt(ODD_NUMBERS.length)] : random.nextInt(most + 1);
+    }
+
+    /** Mostly what the run's pattern has at this place, so that words and query are near each other. */
+    private static int pickSymbol(Random random, int[] pattern, int place) {
+        return random.nextInt(4) == 0 ? pick(random, 3) : pattern[place % pattern.length];
+    }
+
+    private static void change(int run, TypoSearch x, Model model, Random random, int[] pattern) {
+        int w = pick(random, 9);
+        int weight = pick(random, 9);
+        int kind = random.nextInt(32);
+        if (kind < 6) {
+            int s = pickSymbol(random, pattern, 0);
+            due(run, "begin(" + s + ", " + weight + ")", x.begin(s, weight), model.begin(s, weight));
+        } else if (kind < 18) {
+            int s = pickSymbol(random, pattern, model.has(w) ? model.words[w].symbols.size() : 0);
+            due(run, "extend(" + w + ", " + s + ")", bit(x.extend(w, s)), model.extend(w, s));
+        } else if (kind < 20) {
+            due(run, "remove(" + w + ")", bit(x.remove(w)), model.remove(w));
+        } else if (kind < 22) {
+            due(run, "weigh(" + w + ", " + weight + ")", bit(x.weigh(w, weight)), model.weigh(w, weight));
+        } else if (kind < 29) {
+            int s = pickSymbol(random, pattern, model.query.size());
+            due(run, "type(" + s + ")", x.type(s), model.type(s));
+        } else {
+            due(run, "rub()", x.rub(), model.rub());
+        }
+    }
+
+    private static void ask(int run, TypoSearch x, Model model, Random random) {
+        int n = pick(random, 9);
+        switch (random.nextInt(8)) {
+            case 0 -> due(run, "words()", x.words(), model.words());
+            case 1 -> due(run, "typed()", x.typed(), model.query.size());
+            case 2 -> due(run, "typos(" + n + ")", x.typos(n), model.typos(n));
+            case 3 -> due(run, "found()", x.found(), model.found());
+            case 4 -> due(run, "at(" + n + ")", x.at(n), model.at(n));
+            case 5 -> due(run, "place(" + n + ")", x.place(n), model.place(n));
+            case 6 -> due(run, "hints()", x.hints(), model.hints());
+            default -> due(run, "common()", x.common(), model.common());
+        }
+    }
+
+    public static void main(String[] args) {
+        Random random = new Random(20261116L);
+        for (int run = 1; run <= RUNS && wrong < 20; run++) {
+            TypoSearch x = new TypoSearch();
+            Model model = new Model();
+            int[] pattern = random.ints(6, 0, 4).toArray();
+            for (int call = 0; call < CALLS && wrong < 20; call++) {
+                if (random.nextInt(3) == 0) {
+                    change(run, x, model, random, pattern);
+                } else {
+                    ask(run, x, model, random);
+                }
+            }
+        }
+        System.out.println(wrong == 0 ? "all answers are as the model's" : wrong + " wrong");
+        System.exit(wrong == 0 ? 0 : 1);
+    }
+}
