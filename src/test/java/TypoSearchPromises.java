@@ -376,6 +376,9 @@ public final class TypoSearchPromises {
         add(z, "0320", 3);
         add(z, "032", 0);
         dueOrder(typing(z, "012"), 3, 2, 1, 0);
+        // A word of the query's length that differs in one symbol is not the query itself.
+        dueOrder(typing(with("10000", "000"), "00000"), 1, 0);
+        dueOrder(typing(with("012301", "012301"), "012301"), 0, 1);
     }
 
     private static void at() {
@@ -452,6 +455,11 @@ public final class TypoSearchPromises {
         due("common() for 0223", typing(with("0123", "0223"), "0223").common(), 1);
         due("common() where a word is the other's beginning", with("01", "0123").common(), 2);
         due("common() the other way round", with("0123", "01").common(), 2);
+        due("common() of 0100 and 01", with("0100", "01").common(), 2);
+        TypoSearch again = with("0123", "0123");
+        again.remove(1);
+        due("the number of the word added then", add(again, "01", 5), 1);
+        due("common() with 01 in the place of 0123", again.common(), 2);
     }
 
     private static void orderAndLimits() {
