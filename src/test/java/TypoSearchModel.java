@@ -2,7 +2,6 @@ import java.util.ArrayList;
 import java.util.Arrays;
 import java.util.Comparator;
 import java.util.List;
-import java.util.Random;
 
 /**
  * Long runs of calls, the same ones each time, compared with a model that is
@@ -16,6 +15,16 @@ public final class TypoSearchModel {
         -1, -2, 4, 6, 10, 11, 31, 32, 60, Integer.MAX_VALUE, Integer.MIN_VALUE};
 
     private static int wrong = 0;
+
+    /** A fixed row of mixed numbers, so that every run of this test makes the same calls. */
+    private static final class Numbers {
+        private long state = 20261116L;
+
+        int below(int bound) {
+            state = state * 6364136223846793005L + 1442695040888963407L;
+            return (int) ((state >>> 33) % bound);
+        }
+    }
 
     private static final class Word {
         final int number;
@@ -188,41 +197,41 @@ public final class TypoSearchModel {
     }
 
     /** Mostly 0 .. most, now and then a number that is out of reach. */
-    private static int pick(Random random, int most) {
-        return random.nextInt(16) == 0
-            ? ODD_NUMBERS[random.nextInt(ODD_NUMBERS.length)] : random.nextInt(most + 1);
+    private static int pick(Numbers numbers, int most) {
+        return numbers.below(16) == 0
+            ? ODD_NUMBERS[numbers.below(ODD_NUMBERS.length)] : numbers.below(most + 1);
     }
 
     /** Mostly what the run's pattern has at this place, so that words and query are near each other. */
-    private static int pickSymbol(Random random, int[] pattern, int place) {
-        return random.nextInt(4) == 0 ? pick(random, 3) : pattern[place % pattern.length];
+    private static int pickSymbol(Numbers numbers, int[] pattern, int place) {
+        return numbers.below(4) == 0 ? pick(numbers, 3) : pattern[place % pattern.length];
     }
 
-    private static void change(int run, TypoSearch x, Model model, Random random, int[] pattern) {
-        int w = pick(random, 9);
-        int weight = pick(random, 9);
-        int kind = random.nextInt(32);
+    private static void change(int run, TypoSearch x, Model model, Numbers numbers, int[] pattern) {
+        int w = pick(numbers, 9);
+        int weight = pick(numbers, 9);
+        int kind = numbers.below(32);
         if (kind < 6) {
-            int s = pickSymbol(random, pattern, 0);
+            int s = pickSymbol(numbers, pattern, 0);
             due(run, "begin(" + s + ", " + weight + ")", x.begin(s, weight), model.begin(s, weight));
         } else if (kind < 18) {
-            int s = pickSymbol(random, pattern, model.has(w) ? model.words[w].symbols.size() : 0);
+            int s = pickSymbol(numbers, pattern, model.has(w) ? model.words[w].symbols.size() : 0);
             due(run, "extend(" + w + ", " + s + ")", bit(x.extend(w, s)), model.extend(w, s));
         } else if (kind < 20) {
             due(run, "remove(" + w + ")", bit(x.remove(w)), model.remove(w));
         } else if (kind < 22) {
             due(run, "weigh(" + w + ", " + weight + ")", bit(x.weigh(w, weight)), model.weigh(w, weight));
         } else if (kind < 29) {
-            int s = pickSymbol(random, pattern, model.query.size());
+            int s = pickSymbol(numbers, pattern, model.query.size());
             due(run, "type(" + s + ")", x.type(s), model.type(s));
         } else {
             due(run, "rub()", x.rub(), model.rub());
         }
     }
 
-    private static void ask(int run, TypoSearch x, Model model, Random random) {
-        int n = pick(random, 9);
-        switch (random.nextInt(8)) {
+    private static void ask(int run, TypoSearch x, Model model, Numbers numbers) {
+        int n = pick(numbers, 9);
+        switch (numbers.below(8)) {
             case 0 -> due(run, "words()", x.words(), model.words());
             case 1 -> due(run, "typed()", x.typed(), model.query.size());
             case 2 -> due(run, "typos(" + n + ")", x.typos(n), model.typos(n));
@@ -235,16 +244,17 @@ public final class TypoSearchModel {
     }
 
     public static void main(String[] args) {
-        Random random = new Random(20261116L);
+        Numbers numbers = new Numbers();
         for (int run = 1; run <= RUNS && wrong < 20; run++) {
             TypoSearch x = new TypoSearch();
             Model model = new Model();
-            int[] pattern = random.ints(6, 0, 4).toArray();
+            int[] pattern = new int[6];
+            Arrays.setAll(pattern, place -> numbers.below(4));
             for (int call = 0; call < CALLS && wrong < 20; call++) {
-                if (random.nextInt(3) == 0) {
-                    change(run, x, model, random, pattern);
+                if (numbers.below(3) == 0) {
+                    change(run, x, model, numbers, pattern);
                 } else {
-                    ask(run, x, model, random);
+                    ask(run, x, model, numbers);
                 }
             }
         }
