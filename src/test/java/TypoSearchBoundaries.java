@@ -996,9 +996,14 @@ public final class TypoSearchBoundaries {
         TypoSearch x = withSixTyped();
         due("begin(3, 0) with six typed", x.begin(3, 0), 4);
         due("extend(4, 0) with six typed", x.extend(4, 0), true);
+        due("weigh(4, 9) with six typed", x.weigh(4, 9), true);
+        due("remove(4) with six typed", x.remove(4), true);
+        due("what stands after these", useUp(x), useUp(withSixTyped()));
         TypoSearch y = withTen();
         due("type(3) with ten words", y.type(3), 1);
         due("typed()", y.typed(), 1);
+        due("rub() with ten words", y.rub(), 3);
+        due("what stands after these", useUp(y), useUp(withTen()));
     }
 
     private static void terms() {
