@@ -4,15 +4,19 @@ import java.util.Comparator;
 import java.util.List;
 
 /**
- * Long runs of calls, the same ones each time, compared with a model that is
- * written straight from the document's terms: it tries the edits one by one
- * and sorts the found words, where the class counts with costs and places.
+ * Long runs of calls, the same ones each time, and each query beside each
+ * word, compared with a model that is written straight from the document's
+ * terms: it tries the edits one by one and sorts the found words, where the
+ * class counts with costs and places.
  */
 public final class TypoSearchModel {
     private static final int RUNS = 600;
     private static final int CALLS = 512;
     private static final int[] ODD_NUMBERS = {
         -1, -2, 4, 6, 10, 11, 31, 32, 60, Integer.MAX_VALUE, Integer.MIN_VALUE};
+
+    /** What a query of each length forgives. */
+    private static final int[] FORGIVEN = {0, 0, 0, 1, 1, 2, 2};
 
     private static int wrong = 0;
 
@@ -132,10 +136,9 @@ public final class TypoSearchModel {
         }
 
         List<Word> ranked(List<Integer> typed) {
-            int forgiven = new int[] {0, 0, 0, 1, 1, 2, 2}[typed.size()];
             List<Word> found = new ArrayList<>();
             for (Word word : words) {
-                if (word != null && tryEdits(typed, 0, word.symbols, 0, 0) <= forgiven) {
+                if (word != null && tryEdits(typed, 0, word.symbols, 0, 0) <= FORGIVEN[typed.size()]) {
                     found.add(word);
                 }
             }
@@ -185,11 +188,15 @@ public final class TypoSearchModel {
         }
     }
 
-    private static void due(int run, String call, int got, int want) {
+    private static void due(String where, String call, int got, int want) {
         if (got != want) {
             wrong++;
-            System.out.println("run " + run + ": " + call + " answered " + got + ", due is " + want);
+            System.out.println(where + ": " + call + " answered " + got + ", due is " + want);
         }
+    }
+
+    private static void due(int run, String call, int got, int want) {
+        due("run " + run, call, got, want);
     }
 
     private static int bit(boolean answer) {
@@ -243,7 +250,63 @@ public final class TypoSearchModel {
         }
     }
 
+    /** All lists of at most six symbols, the shorter ones first. */
+    private static List<List<Integer>> allLists() {
+        List<List<Integer>> lists = new ArrayList<>();
+        lists.add(List.of());
+        for (int next = 0; lists.get(next).size() < 6; next++) {
+            for (int s = 0; s < 4; s++) {
+                List<Integer> longer = new ArrayList<>(lists.get(next));
+                longer.add(s);
+                lists.add(longer);
+            }
+        }
+        return lists;
+    }
+
+    /** Whether 0 comes before the first 1, that before the first 2, and that before the first 3. */
+    private static boolean isInOrderOfUse(List<Integer> symbols) {
+        int used = 0;
+        for (int s : symbols) {
+            if (s > used) {
+                return false;
+            }
+            used = Math.max(used, s + 1);
+        }
+        return true;
+    }
+
+    /**
+     * Each word with each query. The terms only ask whether symbols are the
+     * same, so a query with its symbols renamed would show nothing new beside
+     * all the words, and of such queries one is enough.
+     */
+    private static void everyPair() {
+        List<List<Integer>> words = allLists();
+        List<List<Integer>> queries = allLists();
+        queries.removeIf(query -> !isInOrderOfUse(query));
+        for (List<Integer> word : words.subList(1, words.size())) {
+            for (List<Integer> query : queries) {
+                if (wrong < 20) {
+                    pair(word, query);
+                }
+            }
+        }
+    }
+
+    private static void pair(List<Integer> word, List<Integer> query) {
+        TypoSearch x = new TypoSearch();
+        x.begin(word.get(0), 0);
+        word.subList(1, word.size()).forEach(s -> x.extend(0, s));
+        query.forEach(x::type);
+        int typos = Model.tryEdits(query, 0, word, 0, 0);
+        String where = "word " + word + ", query " + query;
+        due(where, "typos(0)", x.typos(0), typos);
+        due(where, "found()", x.found(), bit(typos <= FORGIVEN[query.size()]));
+    }
+
     public static void main(String[] args) {
+        everyPair();
         Numbers numbers = new Numbers();
         for (int run = 1; run <= RUNS && wrong < 20; run++) {
             TypoSearch x = new TypoSearch();
